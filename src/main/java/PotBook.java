@@ -525,7 +525,7 @@ public final class PotBook {
     }
 
     private static boolean isDigit(int sign) {
-        return isWithin(sign, '0', '9');
+        return sign >= '0' && sign <= '9';
     }
 
     private static boolean holdsBit(int bits, int k) {
@@ -1273,6 +1273,9 @@ public final class PotBook {
      * that could change it: the age.
      */
     private static final class Pot {
+        /** More than 5,000 can be halved. */
+        private static final int HALVINGS = 16;
+
         private final Pages pages;
         private final Pantry pantry;
         private final Laws laws;
@@ -1289,7 +1292,6 @@ public final class PotBook {
         /** The PAGE whose DISHES stand in the rows below. */
         private int shown = NONE;
         private final int[] kept = new int[DISHES];
-        private final boolean[] isKept = new boolean[DISHES];
         private final int[] low = new int[PAGE_THINGS];
         private final int[] wide = new int[PAGE_THINGS];
         private final int[] stride = new int[PAGE_THINGS];
@@ -1341,8 +1343,7 @@ public final class PotBook {
             counts[page] = all > DISHES ? NONE : 0;
             for (int dish = 0; dish < all && all <= DISHES; dish++) {
                 spread(dish);
-                isKept[dish] = keepsHolds(page);
-                if (isKept[dish]) {
+                if (keepsHolds(page)) {
                     keep(page, dish);
                 }
             }
@@ -1432,8 +1433,22 @@ public final class PotBook {
             if (!fits) {
                 return false;
             }
-            int dish = kept[i] + up * stride[here] - up * stride[there];
-            return dish >= 0 && dish < DISHES && isKept[dish];
+            return isKept(kept[i] + up * stride[here] - up * stride[there]);
+        }
+
+        /** The row is in order, so that halving it finds a DISH. */
+        private boolean isKept(int dish) {
+            int from = 0;
+            int to = counts[shown];
+            for (int k = 0; k < HALVINGS && from < to; k++) {
+                int middle = (from + to) / 2;
+                if (kept[middle] < dish) {
+                    from = middle + 1;
+                } else {
+                    to = middle;
+                }
+            }
+            return from < counts[shown] && kept[from] == dish;
         }
     }
 

@@ -18,6 +18,10 @@ final class Due {
         same(call, got ? 1 : 0, want ? 1 : 0);
     }
 
+    static void pass() {
+        asked++;
+    }
+
     static void fail() {
         wrong++;
     }

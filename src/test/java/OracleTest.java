@@ -230,6 +230,7 @@ public final class OracleTest {
         log.add(line);
         Object a = answer(quick, name, types, values);
         Object b = answer(slow, name, types, values);
+        Due.pass();
         if (!a.equals(b)) {
             wrong++;
             log.set(log.size() - 1, line + " answered " + a + ", due is " + b);
