@@ -1402,7 +1402,7 @@ public final class PotBook {
             int all = 0;
             for (int k = 0; k < pages.thingsOn[shown]; k++) {
                 int thing = pages.letter[shown][k];
-                int v = stride[k] > 0 && wide[k] > 0 ? low[k] + dish / stride[k] % wide[k] : low[k];
+                int v = partsIn(dish, k);
                 parts[k] = v;
                 wet += v * pantry.wet[thing];
                 sweet += v * pantry.sweet[thing];
@@ -1415,8 +1415,18 @@ public final class PotBook {
             letters[3] = all;
         }
 
+        private int partsIn(int dish, int place) {
+            boolean isLaid = stride[place] > 0 && wide[place] > 0;
+            return isLaid ? low[place] + dish / stride[place] % wide[place] : low[place];
+        }
+
         int shownCount() {
             return shown == NONE ? 0 : counts[shown];
+        }
+
+        /** PARTS at a place in the i-th DISH, without showing all of it. */
+        int partsAt(int i, int place) {
+            return i >= 0 && i < DISHES ? partsIn(kept[i], place) : 0;
         }
 
         int partsOf(int thing) {
@@ -1426,14 +1436,12 @@ public final class PotBook {
 
         /** Whether the i-th DISH is one, too, with PARTS at two places changed about. */
         boolean turns(int i, int here, int there) {
-            show(i);
-            int up = parts[there] - parts[here];
-            boolean fits = isWithin(parts[there], low[here], low[here] + wide[here] - 1)
-                    && isWithin(parts[here], low[there], low[there] + wide[there] - 1);
-            if (!fits) {
-                return false;
-            }
-            return isKept(kept[i] + up * stride[here] - up * stride[there]);
+            int mine = partsAt(i, here);
+            int others = partsAt(i, there);
+            int up = others - mine;
+            boolean fits = isWithin(others, low[here], low[here] + wide[here] - 1)
+                    && isWithin(mine, low[there], low[there] + wide[there] - 1);
+            return fits && isKept(kept[i] + up * stride[here] - up * stride[there]);
         }
 
         /** The row is in order, so that halving it finds a DISH. */
@@ -1472,11 +1480,9 @@ public final class PotBook {
 
         /** The least (0) or the greatest (1) PARTS at a place. */
         int edge(int place, int side) {
-            pot.show(0);
-            int best = pot.parts[place];
+            int best = pot.partsAt(0, place);
             for (int i = 1; i < pot.shownCount(); i++) {
-                pot.show(i);
-                best = further(best, pot.parts[place], side);
+                best = further(best, pot.partsAt(i, place), side);
             }
             return best;
         }
@@ -1525,8 +1531,7 @@ public final class PotBook {
             }
             int worst = 0;
             for (int i = 0; i < pot.shownCount(); i++) {
-                pot.show(i);
-                int v = pot.parts[place];
+                int v = pot.partsAt(i, place);
                 if (isWithin(v, 0, GREATEST_PARTS)) {
                     tally[v]++;
                     worst = Math.max(worst, tally[v]);
