@@ -129,7 +129,11 @@ public final class BoundsTest {
         PotBook x = new PotBook();
         stocked(x);
         Due.same("5: a PAGE", textOf(x, "a1", 0), 4);
+        Due.same("5: the TAPE is empty then", x.count(7), 0);
+        Due.same("5: empty it is no PAGE", x.text(0), NONE);
         Due.same("5: a LAW", textOf(x, "y:n", 1), 2);
+        Due.same("5: the TAPE is empty then", x.count(7), 0);
+        Due.same("5: empty it is no LAW", x.text(1), NONE);
     }
 
     private static void tape(PotBook x, String text) {

@@ -338,6 +338,9 @@ public final class DayEdgesTest {
     private static void withoutMenus() {
         PotBook x = with(1, "a2");
         x.day(1, false);
+        x.bought(0, 0, 2);
+        Due.same("32: one that is in all", x.menu(0, 1, 0, 1), 1);
+        Due.same("52: one", x.lean(0, 1, 0, 0), 1);
         x.bought(0, 0, 1);
         int[] due = {0, 0, 0, NONE, NONE};
         for (int what = 0; what < 5; what++) {

@@ -12,6 +12,7 @@ public final class DishEdgesTest {
         sizesByYears();
         sizesBetween();
         mostFromOneToTwenty();
+        mostAndHoldsAnew();
         mostOfPartsLeftOutAlone();
         dishesInOrder();
         fiveThousandAtMost();
@@ -173,6 +174,32 @@ public final class DishEdgesTest {
         Due.same("10: it changes nothing", x.dishes(0), 1);
     }
 
+    /** All DISHES are anew behind each MOST and each HOLD, whatever was asked ahead of them. */
+    private static void mostAndHoldsAnew() {
+        PotBook x = with(1);
+        Due.tell(x, "a", 0);
+        Due.tell(x, "y:n", 1);
+        x.day(1, false);
+        x.most(1);
+        Due.same("31: the first that is asked", x.may(0, 0), 1);
+        x.most(6);
+        Due.same("12: 6", x.dishes(0), 6);
+        x.hold(0, 0, 1, 5);
+        x.most(2);
+        Due.same("12: a HOLD, then MOST", x.dishes(0), 2);
+        x.most(7);
+        x.hold(0, 0, 1, 4);
+        Due.same("12: MOST, then a HOLD", x.dishes(0), 4);
+        x.most(6);
+        Due.same("12: as at first, but held", x.dishes(0), 4);
+        x.most(1);
+        x.most(6);
+        Due.same("12: there and back", x.dishes(0), 4);
+        Due.same("31: four", x.may(0, 0), 0);
+        x.hold(0, 0, 1, 1);
+        Due.same("31: one", x.may(0, 0), 1);
+    }
+
     private static void mostOfPartsLeftOutAlone() {
         PotBook x = with(3);
         Due.tell(x, "a50,b7-9,c", 0);
@@ -227,6 +254,9 @@ public final class DishEdgesTest {
             Due.same("12: " + told[k], x.dishes(0), due[k]);
             Due.is("13: the last of " + told[k], x.dish(0, due[k] - 1, 0) > 0, true);
             Due.same("13: no more of " + told[k], x.dish(0, due[k], 0), NONE);
+            int fourth = told[k].startsWith("d1") ? 1 : told[k].endsWith("d9") ? 9 : 0;
+            Due.same("13: d of " + told[k], x.dish(0, due[k] - 1, 3), fourth);
+            Due.same("13: d of " + told[k], x.dish(0, 0, 3), fourth);
             Due.is("15: of " + told[k], x.shared(0) >= 0, true);
         }
         String[] not = {"a1-41,b1-61,c1-2", "a1-2,b1-41,c1-61", "a1-51,b1-99", "a1-99,b1-51", "a1-50,b1-50,c1-3",
@@ -425,6 +455,20 @@ public final class DishEdgesTest {
         x.hold(7, 1, 11, 21);
         // 1 1, 1 2, 1 3, 1 4, 2 1: of a 4, of b 2 at most
         Due.same("18: of b", x.weigh(7), 1);
+        Due.tell(x, "a1-2,b1-3", 0);
+        Due.tell(x, "y:w=1&s<3?1;y:w=2&s=3?1", 1);
+        x.hold(8, 2, 1, 1);
+        // 1 1, 1 2, 2 3: all of them count, the first and the last, too
+        Due.same("18: of b", x.weigh(8), 1);
+        Due.tell(x, "y:w=1&s=1?1;y:w=2&s>1?1", 1);
+        Due.tell(x, "a1-2,b1-3", 0);
+        x.hold(9, 3, 1, 1);
+        // 1 1, 2 2, 2 3
+        Due.same("18: of b", x.weigh(9), 1);
+        Due.tell(x, "b98-99,a99", 0);
+        Due.same("18: PARTS to 99", x.weigh(10), 1);
+        Due.tell(x, "a99,b98-99", 0);
+        Due.same("18: PARTS to 99", x.weigh(11), 1);
     }
 
     /** What has no less than the least that STOOD stands (1); open: NONE. */

@@ -379,6 +379,19 @@ public final class KinEdgesTest {
         x.wrote(2, 1);
         Due.same("48: no GUESSES", x.nearest(0), NONE);
         Due.same("48: nothing LEFT OUT", x.nearest(1), NONE);
+        PotBook y = with(2, "a", "a1-3");
+        y.most(1);
+        Due.same("48: one DISH alone", y.nearest(0), 0);
+        y.most(2);
+        Due.same("48: two DISHES", y.nearest(0), 1);
+        PotBook z = with(9, "a", "a6", "a,b1,c1,d1,e1,f1,g1,h1", "a,b,c9");
+        Due.same("48: the last of six", z.nearest(0), 5);
+        Due.tell(z, "y:n", 1);
+        z.hold(0, 0, 1, 3);
+        Due.same("48: the last of three", z.nearest(0), 2);
+        Due.same("48: of eight THINGS", z.nearest(2), 5);
+        Due.same("48: fewer THINGS behind more", z.nearest(3), 5 * 6);
+        Due.same("48: of one THING", z.nearest(0), 2);
     }
 
     /** Of several the lowest. */

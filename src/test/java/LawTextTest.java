@@ -380,7 +380,14 @@ public final class LawTextTest {
 
     /** TRUTHS with | between; TRUTH: UNITS with & between; UNIT: ! UNIT, ( CONDITION ), or SUM, one of = < >, SUM. */
     private static void conditionsOfBothKinds() {
-        String[] units = {"n=8", "n=9"};
+        conditionsBy("n=8", "n=9");
+        conditionsBy("n>9", "n>8");
+        conditionsBy("n<9", "n<10");
+        conditionsBy("n+n<n*2", "[n-9]*1000>n/9-2");
+        conditionsBy("(n=8|n=7)", "!(n=8|n=7)");
+    }
+
+    private static void conditionsBy(String... units) {
         for (int bits = 0; bits < 8; bits++) {
             boolean a = (bits & 1) != 0;
             boolean b = (bits & 2) != 0;
@@ -440,6 +447,15 @@ public final class LawTextTest {
     }
 
     private static void nothingIsKeptOfFaults() {
+        PotBook y = new PotBook();
+        y.thing(2, 3, 4, false, 1, 12);
+        Due.tell(y, "a9", 0);
+        Due.same("4: a longer one", Due.fault(y, "y:n=8?1;y:n=7?2;y:7;", 1), 20);
+        Due.same("5: a shorter one", Due.tell(y, "y:n=8?1", 1), 0);
+        Due.same("16: no CLAUSE of the longer one", y.worth(0, 0, 0), 0);
+        Due.same("4: a longer one", Due.fault(y, "y:n=9?1;y:n=7?2;y:7;", 1), 20);
+        Due.same("5: a shorter one", Due.tell(y, "y:n=8?1;y:n=7?2", 1), 1);
+        Due.same("16: no CLAUSE of the longer one", y.worth(0, 0, 1), 0);
         Shows shows = new Shows(x -> {
             x.thing(1, 2, 3, true, 1, 12);
             x.thing(2, 3, 4, false, 1, 12);

@@ -298,6 +298,7 @@ public final class PageTextTest {
             x.thing(1, 2, 3, true, 1, 12);
             x.thing(2, 3, 4, false, 1, 12);
             Due.tell(x, "a1-2;BRT", 0);
+            Due.tell(x, "a,b;B", 0);
             Due.tell(x, "y:n", 1);
         });
         String[] texts = {"b9,a7-8;S9T9R9B9S9T9R9B9S", "b9,a7-8;S9T9R9B9X", "b9,a7-6", "b9,a7-", "b,c", "b,", "b,b", "X"};

@@ -113,6 +113,11 @@ public final class PotEdgesTest {
         x.hold(0, 0, 3, 3);
         Due.same("42: one DISH", x.serves(0, 1400, 1, 0), 32);
         Due.same("42: one DISH", x.serves(0, 1400, 1, 1), 32);
+        PotBook y = with("a1-2", "c4-5,b2");
+        Due.same("42: two DISHES", y.serves(0, 1400, 1, 0), 10);
+        Due.same("42: two DISHES", y.serves(0, 1400, 1, 1), 20);
+        Due.same("42: two DISHES", y.serves(1, 1400, 1, 0), 60);
+        Due.same("42: two DISHES", y.serves(1, 1400, 1, 1), 70);
     }
 
     /** HEAT is 10 at first; minutes till it is 100 or more. */
@@ -145,6 +150,7 @@ public final class PotEdgesTest {
         Due.same("43: the second DISH", x.boil(7, 1, 1, 10), 2);
         for (int none : new int[] {0, -1, 100, MIN, MAX}) {
             Due.same("43: no pot " + none, x.boil(6, 0, none, 99), NONE);
+            Due.same("43: no pot " + none + " of what is WET", x.boil(0, 0, none, 99), NONE);
             Due.same("43: no fire " + none, x.boil(6, 0, 1, none), NONE);
         }
         for (int none : new int[] {-1, 1, MIN, MAX}) {
@@ -254,6 +260,7 @@ public final class PotEdgesTest {
         for (int[] d : due) {
             Due.same("11: a HOLD", x.hold(d[0], 0, d[1], d[2]) > 0 ? 1 : 0, 1);
             Due.same("54: from " + d[1] + " to " + d[2], x.swapped(0, 0, 1), d[3]);
+            Due.same("54: the other way from " + d[1] + " to " + d[2], x.swapped(0, 1, 0), d[3]);
         }
         x.hold(0, 0, 1, 4);
         Due.same("54: none of several", x.swapped(0, 0, 1), 0);

@@ -32,13 +32,13 @@ final class Shows {
         for (int what = 0; what < 9; what++) {
             many[what] = x.count(what);
         }
-        askOfTape();
         askOfPages();
         askOfDishes();
         askOfLaws();
         askOfBooks();
         askOfDays();
         askOfMenus();
+        askOfTape();
         for (int from = 0; from < calls.size(); from += ASKED_OF_ONE) {
             PotBook y = told();
             for (int k = from; k < Math.min(calls.size(), from + ASKED_OF_ONE); k++) {
@@ -79,8 +79,10 @@ final class Shows {
 
     private static long[] told(PotBook x) {
         long[] row = {x.text(0), x.text(1), x.end(0) ? 1 : 0, x.thing(9, 8, 7, true, 12, 2), x.sized(0, 1900, 77),
-            x.sized(1, 1999, 78), x.size(0, 1999), Due.tell(x, "b1,a;T3R", 0), Due.tell(x, "y:w+t", 1),
-            x.hold(x.count(0) - 1, x.count(1) - 1, -5, 9999), x.dishes(x.count(0) - 1), x.hold(0, 0, -1000, 1000000),
+            x.sized(1, 1999, 78), x.size(0, 1999), Due.tell(x, "b1,a;T3R", 0), Due.tell(x, "y:w+b*1000+r*100+t*10+u", 1),
+            x.hold(x.count(0) - 1, x.count(1) - 1, -5, 9999), x.dishes(x.count(0) - 1),
+            x.worth(x.count(0) - 1, 0, x.count(1) - 1), x.guess(x.count(0) - 1, 0), x.page(x.count(0) - 1, 0),
+            x.page(x.count(0) - 1, 1), x.page(x.count(0) - 1, 2), x.hold(0, 0, -1000, 1000000),
             x.dishes(0), x.trial(0, 300, true), x.stand(0, 0, 1), x.book(0), x.slip(0, 1, 2) ? 1 : 0, x.reads(0, 1) ? 1 : 0,
             x.cost(0), x.ways(0), x.first(), x.day(9, false), x.bought(0, 0, 33) ? 1 : 0, x.menu(0, 3, 40, 0),
             x.wrote(0, 1) ? 1 : 0, x.leaves(1, 0, 0), x.twice(0), x.came(x.count(0) - 1), x.tree(), x.most(3) ? 1 : 0,
@@ -102,6 +104,7 @@ final class Shows {
         calls.add(call);
     }
 
+    /** Asked last, as a FAULT that is looked for could hide what an earlier one left behind. */
     private void askOfTape() {
         for (int k = 0; k < 9; k++) {
             int what = k;
