@@ -1939,7 +1939,7 @@ public final class PotBook {
         }
     }
 
-    /** MENUS, laid out anew for each call: how many there can be is told by no fewer steps. */
+    /** MENUS, laid out anew for each call, the last PAGE's messes all at once. */
     private static final class Menus {
         private static final int MANY = 0;
         private static final int IN_ALL = 1;
@@ -1956,8 +1956,6 @@ public final class PotBook {
         private final int[] pageAt = new int[MENU_PAGES];
         private final int[] caps = new int[MENU_PAGES];
         private final int[][] dose = new int[MENU_PAGES][THINGS];
-        /** What the PAGES from a place on can use at most. */
-        private final int[][] ahead = new int[MENU_PAGES + 1][THINGS];
         /** What is BOUGHT and not used so far. */
         private final int[] spare = new int[THINGS];
         private final int[] chosen = new int[MENU_PAGES];
@@ -1988,10 +1986,6 @@ public final class PotBook {
             }
             for (int thing = 0; thing < THINGS; thing++) {
                 spare[thing] = account.stock[day][thing];
-                ahead[places][thing] = 0;
-                for (int place = places - 1; place >= 0; place--) {
-                    ahead[place][thing] = ahead[place + 1][thing] + caps[place] * dose[place][thing];
-                }
             }
             clearFound();
             choose(0);
@@ -2024,22 +2018,19 @@ public final class PotBook {
 
         private void choose(int place) {
             if (place >= places || place >= MENU_PAGES) {
-                noteMenu();
                 return;
             }
             int top = room(place);
+            if (place == places - 1) {
+                noteMenus(place, need(place), top);
+                return;
+            }
             for (int messes = 0; messes <= top; messes++) {
                 chosen[place] = messes;
-                goOn(place);
+                choose(place + 1);
                 use(place, 1);
             }
             use(place, -top - 1);
-        }
-
-        private void goOn(int place) {
-            if (canUseUp(place + 1)) {
-                choose(place + 1);
-            }
         }
 
         /** The most messes for which there is enough. */
@@ -2053,58 +2044,76 @@ public final class PotBook {
             return most;
         }
 
+        /** The fewest messes by which no more is over than may be. */
+        private int need(int place) {
+            int fewest = 0;
+            for (int thing = 0; thing < THINGS; thing++) {
+                int tooMuch = spare[thing] - overMost;
+                if (holdsBit(things, thing) && tooMuch > 0) {
+                    int each = dose[place][thing];
+                    fewest = Math.max(fewest, each > 0 ? (tooMuch + each - 1) / each : MENU_MESSES + 1);
+                }
+            }
+            return fewest;
+        }
+
         private void use(int place, int messes) {
             for (int thing = 0; thing < THINGS; thing++) {
                 spare[thing] -= messes * dose[place][thing];
             }
         }
 
-        /** Whether the PAGES from a place on can bring down all that is over to what may be. */
-        private boolean canUseUp(int place) {
-            for (int thing = 0; thing < THINGS; thing++) {
-                if (holdsBit(things, thing) && spare[thing] - ahead[place][thing] > overMost) {
-                    return false;
-                }
+        /** MENUS that are alike but for the last PAGE: of this from low to top messes. */
+        private void noteMenus(int last, int low, int top) {
+            if (low > top) {
+                return;
             }
-            return true;
-        }
-
-        private void noteMenu() {
             int bits = 0;
             int messes = 0;
-            for (int place = 0; place < places; place++) {
+            for (int place = 0; place < last; place++) {
                 messes += chosen[place];
                 if (chosen[place] > 0) {
                     bits |= 1 << pageAt[place];
                 }
             }
+            int lastBit = 1 << pageAt[last];
+            int inAll = low > 0 ? bits | lastBit : bits;
             int number = found[MANY];
-            found[MANY] = number + 1;
-            found[IN_ALL] = number == 0 ? bits : found[IN_ALL] & bits;
-            found[IN_SOME] |= bits;
-            found[FEWEST] = number == 0 ? messes : Math.min(found[FEWEST], messes);
-            found[MOST_MESSES] = Math.max(found[MOST_MESSES], messes);
-            noteWaste(number);
+            found[IN_ALL] = number == 0 ? inAll : found[IN_ALL] & inAll;
+            found[IN_SOME] |= top > 0 ? bits | lastBit : bits;
+            found[FEWEST] = number == 0 ? messes + low : Math.min(found[FEWEST], messes + low);
+            found[MOST_MESSES] = Math.max(found[MOST_MESSES], messes + top);
+            noteWaste(last, low, top);
+            found[MANY] = number + top - low + 1;
         }
 
-        private void noteWaste(int number) {
+        private void noteWaste(int last, int low, int top) {
+            int number = found[MANY];
+            int each = 0;
             int waste = 0;
             for (int thing = 0; thing < THINGS; thing++) {
                 if (holdsBit(things, thing)) {
+                    each += dose[last][thing];
                     waste += spare[thing];
                 }
             }
-            if (number == 0 || waste < found[LEAN_WASTE]) {
+            noteLean(number + top - low, waste - top * each);
+            if (wanted >= number && wanted <= number + top - low) {
+                System.arraycopy(chosen, 0, wantedMesses, 0, MENU_PAGES);
+                wantedMesses[last] = low + wanted - number;
+                wantedWaste = waste - wantedMesses[last] * each;
+            }
+        }
+
+        /** Of MENUS that are alike but for the last PAGE the one with the most messes alone wastes least. */
+        private void noteLean(int number, int waste) {
+            if (found[LEAN_MANY] == 0 || waste < found[LEAN_WASTE]) {
                 found[LEAN_MANY] = 0;
                 found[LEAN_LOWEST] = number;
                 found[LEAN_WASTE] = waste;
             }
             if (waste == found[LEAN_WASTE]) {
                 found[LEAN_MANY]++;
-            }
-            if (number == wanted) {
-                wantedWaste = waste;
-                System.arraycopy(chosen, 0, wantedMesses, 0, MENU_PAGES);
             }
         }
 

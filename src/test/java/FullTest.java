@@ -8,15 +8,19 @@ public final class FullTest {
 
     public static void main(String[] args) {
         none();
+        noneRefused();
         one();
         asManyAsMayBe();
         oneMore();
         oneMoreStays();
+        bytesOfNumbers();
+        bytesBehindAnEnd();
         tapeFull();
         tapeFullOfAll();
         sizesFull();
         pageFull();
         heldByOthers();
+        callsToTheLast();
         Due.close("FullTest");
     }
 
@@ -101,6 +105,25 @@ public final class FullTest {
         counts("none", x, 0, 0, 0, 0, 0, 0, 0, 0, 6);
     }
 
+    /** Of nothing told nothing can be told further, and asking tells nothing. */
+    private static void noneRefused() {
+        Shows bare = new Shows(x -> { });
+        bare.refused("7: no THING", x -> x.sized(0, 1400, 5), NONE);
+        bare.refused("11: no PAGE", x -> x.hold(0, 0, 1, 1), NONE);
+        bare.refused("19: no LAW", x -> x.trial(0, 1, true), NONE);
+        bare.refused("22: no BOOK", x -> x.book(0), NONE);
+        bare.refused("24: no BOOK", x -> x.reads(0, 3) ? 1 : 0, 0);
+        bare.refused("30: no DAY", x -> x.bought(0, 0, 5) ? 1 : 0, 0);
+        bare.refused("38: no PAGE", x -> x.wrote(0, 3) ? 1 : 0, 0);
+        bare.refused("5: no PAGE", x -> x.text(0), NONE);
+        bare.refused("5: no LAW", x -> x.text(1), NONE);
+        bare.refused("3: no byte", x -> x.end(1) ? 1 : 0, 0);
+        bare.refused("3: none are all", x -> x.end(0) ? 1 : 0, 1);
+        bare.refused("2: no bytes", x -> x.feed(0, 0, 0, 0, 0), 0);
+        bare.refused("4: FAULT", x -> x.fault(0), 0);
+        bare.refused("9: no PAGE", x -> Shows.page(x, 0, 0), Shows.THROWN);
+    }
+
     private static void one() {
         PotBook x = new PotBook();
         Due.same("one: thing", x.thing(1, 2, 3, false, 1, 12), 0);
@@ -177,6 +200,60 @@ public final class FullTest {
         full(x);
         x.end(0);
         Due.feed(x, text);
+    }
+
+    /** Of each number the highest first; bytes of 0 are left out. */
+    private static void bytesOfNumbers() {
+        int[][] numbers = {{0, 0}, {1, 1}, {255, 1}, {256, 1}, {257, 2}, {65535, 2}, {65536, 1}, {0x10001, 2}, {0x1000000, 1},
+            {0x1000001, 2}, {0x1010101, 4}, {-1, 4}, {Integer.MAX_VALUE, 4}, {Integer.MIN_VALUE, 1}, {-256, 3}, {-65536, 2},
+            {0xff00ff, 2}, {0xff00ff00, 2}};
+        for (int[] n : numbers) {
+            for (int at = 0; at < 5; at++) {
+                int[] w = new int[5];
+                w[at] = n[0];
+                Due.same("2: " + n[0], new PotBook().feed(w[0], w[1], w[2], w[3], w[4]), n[1]);
+            }
+            Due.same("2: five of " + n[0], new PotBook().feed(n[0], n[0], n[0], n[0], n[0]), 5 * n[1]);
+        }
+        String text = "y:1+2+3+4+5+6+7+8+9+";
+        for (int hole = 0; hole < 20; hole++) {
+            PotBook x = new PotBook();
+            int[] w = new int[5];
+            for (int k = 0; k < 20; k++) {
+                w[k / 4] |= (k == hole ? 0 : text.charAt(k)) << 24 - 8 * (k % 4);
+            }
+            Due.same("2: one left out", x.feed(w[0], w[1], w[2], w[3], w[4]), 19);
+            String rest = text.substring(0, hole) + text.substring(hole + 1);
+            for (int n = 0; n < 20; n++) {
+                PotBook y = new PotBook();
+                Due.feed(y, rest.substring(0, n));
+                PotBook z = new PotBook();
+                z.feed(w[0], w[1], w[2], w[3], w[4]);
+                Due.is("3: the first of them", z.end(n), true);
+                Due.same("4: the first " + n + " of them", z.fault(1), y.fault(1));
+            }
+        }
+    }
+
+    /** The TAPE has its first n bytes alone; what is fed then comes behind these. */
+    private static void bytesBehindAnEnd() {
+        PotBook x = new PotBook();
+        x.thing(1, 1, 1, false, 1, 12);
+        x.thing(1, 1, 1, false, 1, 12);
+        Due.feed(x, "a5;B2X");
+        Due.is("3: two", x.end(2), true);
+        Due.same("4: a5", x.fault(0), NONE);
+        Due.same("2: behind the two", Due.feed(x, ",b"), 4);
+        Due.same("4: a5,b", x.fault(0), NONE);
+        Due.is("3: all four", x.end(4), true);
+        Due.is("3: no five", x.end(5), false);
+        Due.same("5: a5,b", x.text(0), 0);
+        Due.same("9: a and b", Shows.page(x, 0, 0), 3);
+        Due.same("9: no ACTS", Shows.page(x, 0, 1), 0);
+        Due.is("3: none are left", x.end(1), false);
+        Due.same("2: from the first on", Due.feed(x, "b"), 1);
+        Due.same("5: b", x.text(0), 1);
+        Due.same("9: b", Shows.page(x, 1, 0), 2);
     }
 
     private static void tapeFull() {
@@ -295,5 +372,16 @@ public final class FullTest {
         Due.same("11: HOLD 21 holds nothing", x.dishes(0) + x.dishes(1), 12);
         Due.same("19: TRIAL 21 tells nothing", x.stands(0, 0, 1), 1);
         Due.same("19: TRIAL 21 tells nothing", x.stands(0, 0, 0), NONE);
+    }
+
+    /** An object is used for 512 calls: the last of them is answered as the first. */
+    private static void callsToTheLast() {
+        PotBook x = new PotBook();
+        x.thing(7, 0, 0, false, 1, 12);
+        for (int k = 0; k < 509; k++) {
+            Due.same("6: asked in between", k % 2 == 0 ? x.size(0, 1400) : x.thing(-1, 0, 0, false, 1, 1), k % 2 == 0 ? 10 : NONE);
+        }
+        Due.same("2: the call before the last", x.feed('a', 0, 0, 0, 0), 1);
+        Due.same("5: the last call", x.text(0), 0);
     }
 }

@@ -78,11 +78,12 @@ final class Shows {
     }
 
     private static long[] told(PotBook x) {
-        long[] row = {x.text(0), x.text(1), x.end(0) ? 1 : 0, x.thing(9, 8, 7, true, 12, 2), x.sized(0, 1900, 77),
+        long[] row = {x.text(0), x.text(1), x.end(0) ? 1 : 0, x.thing(9, 8, 7, true, 12, 2),
+            x.thing(1, 2, 3, false, 1, 12), x.sized(0, 1900, 77),
             x.sized(1, 1999, 78), x.size(0, 1999), Due.tell(x, "b1,a;T3R", 0), Due.tell(x, "y:w+b*1000+r*100+t*10+u", 1),
             x.hold(x.count(0) - 1, x.count(1) - 1, -5, 9999), x.dishes(x.count(0) - 1),
-            x.worth(x.count(0) - 1, 0, x.count(1) - 1), x.guess(x.count(0) - 1, 0), x.page(x.count(0) - 1, 0),
-            x.page(x.count(0) - 1, 1), x.page(x.count(0) - 1, 2), x.hold(0, 0, -1000, 1000000),
+            x.worth(x.count(0) - 1, 0, x.count(1) - 1), x.guess(x.count(0) - 1, 0), page(x, x.count(0) - 1, 0),
+            page(x, x.count(0) - 1, 1), page(x, x.count(0) - 1, 2), x.hold(0, 0, -1000, 1000000),
             x.dishes(0), x.trial(0, 300, true), x.stand(0, 0, 1), x.book(0), x.slip(0, 1, 2) ? 1 : 0, x.reads(0, 1) ? 1 : 0,
             x.cost(0), x.ways(0), x.first(), x.day(9, false), x.bought(0, 0, 33) ? 1 : 0, x.menu(0, 3, 40, 0),
             x.wrote(0, 1) ? 1 : 0, x.leaves(1, 0, 0), x.twice(0), x.came(x.count(0) - 1), x.tree(), x.most(3) ? 1 : 0,
