@@ -23,6 +23,7 @@ public final class DishEdgesTest {
         holdsThatLeaveNone();
         spansAndShared();
         weighNext();
+        weighByTheMostAlike();
         trialsStoodAlone();
         trialsFellAlone();
         trialsOfBoth();
@@ -469,6 +470,23 @@ public final class DishEdgesTest {
         Due.same("18: PARTS to 99", x.weigh(10), 1);
         Due.tell(x, "a99,b98-99", 0);
         Due.same("18: PARTS to 99", x.weigh(11), 1);
+    }
+
+    /** Not the THING with the most unlike PARTS, nor the one with the least on the mean. */
+    private static void weighByTheMostAlike() {
+        PotBook x = with(3);
+        Due.tell(x, "a1-3,b1-2,c1-2", 0);
+        Due.tell(x, "y:w=1?1;y:w=2&s=1&f=1?1;y:w=3&s=2&f=1?1", 1);
+        x.hold(0, 0, 1, 1);
+        // of a 4 1 1, of b 3 3, of c 4 2
+        Due.same("12: six", x.dishes(0), 6);
+        Due.same("18: b, of which two are to be had alone", x.weigh(0), 1);
+        Due.tell(x, "a1-5,b1-3,c1-2", 0);
+        Due.tell(x, "y:w=1&s=1?1;y:w=1&f=1?1;y:f=2?0;y:w=2&s=1|w=3&s=2|w=4&s=2|w=5&s=3?1", 1);
+        x.hold(1, 1, 1, 1);
+        // of a 4 1 1 1 1, of b 3 3 2, of c 7 1
+        Due.same("12: eight", x.dishes(1), 8);
+        Due.same("18: b, though of a there are fewer on the mean", x.weigh(1), 1);
     }
 
     /** What has no less than the least that STOOD stands (1); open: NONE. */

@@ -407,6 +407,9 @@ public final class KinEdgesTest {
         y.hold(0, 0, 1, 4);
         // 1 3, 2 2, 2 3, ..: 2 3 is the first that is off by one
         Due.same("48: the first that is off by one", y.nearest(0), 2);
+        y.hold(0, 0, 2, 4);
+        // 1 3, 2 2, 2 4, 3 1, ..: all are off by two together
+        Due.same("48: off by two of one THING, or by one of two", y.nearest(0), 0);
     }
 
     private static PotBook wetAndSweet() {
