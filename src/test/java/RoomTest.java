@@ -51,7 +51,7 @@ public final class RoomTest {
         return all;
     }
 
-    /** Of all told as much as may be (2), something (1), nothing (0), by some 200 of the 512 calls. */
+    /** Of all told as much as may be (2), something (1), nothing (0), by some 260 of the 512 calls. */
     private static PotBook full(int how) {
         PotBook x = new PotBook();
         int many = how == 2 ? 16 : how;
@@ -76,7 +76,7 @@ public final class RoomTest {
         PotBook x = full(how);
         Method[] all = PotBook.class.getDeclaredMethods();
         java.util.Arrays.sort(all, (a, b) -> a.getName().compareTo(b.getName()));
-        for (int k = 0; k < 290; k++) {
+        for (int k = 0; k < 240; k++) {
             Method m = all[random.nextInt(all.length)];
             if (!Modifier.isPublic(m.getModifiers())) {
                 continue;
@@ -95,14 +95,14 @@ public final class RoomTest {
         }
     }
 
-    /** The dearest calls that can be, 300 of them, with what they make counted in bytes: 7.3 million elements are more. */
+    /** The dearest calls that can be, some 230 of them, with what they make counted in bytes: 7.3 million elements are more. */
     private static void dearCalls() {
         com.sun.management.ThreadMXBean bean = (com.sun.management.ThreadMXBean) ManagementFactory.getThreadMXBean();
         PotBook x = full(2);
         x.most(20);
         long sum = dear(x);
         long before = bean.getThreadAllocatedBytes(Thread.currentThread().getId());
-        for (int k = 0; k < 24; k++) {
+        for (int k = 0; k < 18; k++) {
             sum += dear(x);
         }
         long made = bean.getThreadAllocatedBytes(Thread.currentThread().getId()) - before;
