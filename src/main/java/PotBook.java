@@ -1586,7 +1586,7 @@ public final class PotBook {
             boolean isGuessed = false;
             for (int k = 0; k < pages.thingsOn[page]; k++) {
                 guesses[k] = pages.meanTold(page, pages.letter[page][k]);
-                isGuessed |= guesses[k] != NONE;
+                isGuessed = isGuessed || guesses[k] != NONE;
             }
             int best = NONE;
             int least = Integer.MAX_VALUE;
